@@ -13,7 +13,9 @@ public final class PoolTest {
         chainsInThePool();
         fullPool();
         extendedTip();
+        sideBlocks();
         givenUpChain();
+        nothingElseIsOffered();
         conflictsWithTheNewChain();
         unripeAfterTheChange();
         givenUpChainLongerThanThePool();
@@ -71,7 +73,7 @@ public final class PoolTest {
         x.seal(0);
         CHECKS.due("5: the same output twice", x.offer(0), false);
         x.input(1, 32, 0, 0);
-        x.input(1, 33, 1, 0);
+        x.input(1, 33, 1, 1);
         x.output(1, 50, 1);
         x.seal(1);
         CHECKS.due("5: a coinbase has one output", x.offer(1), false);
@@ -144,8 +146,11 @@ public final class PoolTest {
         x.submit(9);
         Calls.pay(x, 4, 41, 0, 1);
         CHECKS.due("5: the coinbase of a block beside the chain", x.offer(4), false);
-        Calls.pay(x, 5, 1, 1, 1);
         x.offer(1);
+        x.input(5, 1, 0, 0);
+        x.input(5, 1, 1, 1);
+        x.output(5, 1, 1);
+        x.seal(5);
         CHECKS.due("5: a place without an output", x.offer(5), false);
     }
 
@@ -209,6 +214,18 @@ public final class PoolTest {
         CHECKS.due("15: which", x.pooled(0), 2);
     }
 
+    /** A block beside the chain neither spends nor makes anything for the pool. */
+    private static void sideBlocks() {
+        ChainNode x = new ChainNode();
+        Calls.mineAll(x, 1, 3);
+        Calls.pay(x, 1, 32, 0, 50);
+        Calls.pay(x, 2, 32, 0, 49);
+        Calls.pay(x, 3, 1, 0, 50);
+        CHECKS.due("9: beside the chain", Calls.send(x, 9, 2, 1, 1), 0);
+        CHECKS.due("5: made beside the chain", x.offer(3), false);
+        CHECKS.due("5: spent beside the chain", x.offer(2), true);
+    }
+
     private static void givenUpChain() {
         ChainNode x = new ChainNode();
         Calls.mineAll(x, 1, 3);
@@ -228,6 +245,19 @@ public final class PoolTest {
         CHECKS.due("5: the pool after the blocks", x.pooled(3), 4);
         CHECKS.due("5: in the pool's order", x.pooled(4), 3);
         CHECKS.due("5: and no more", x.count(3), 5);
+    }
+
+    /** Only what was in a block or the pool is offered, not all that would fit. */
+    private static void nothingElseIsOffered() {
+        ChainNode x = new ChainNode();
+        Calls.mineAll(x, 1, 3);
+        Calls.pay(x, 0, 32, 0, 50);
+        Calls.pay(x, 1, 33, 0, 50);
+        Calls.send(x, 4, 3, 1, 1);
+        Calls.send(x, 5, 3, 9);
+        CHECKS.due("5: of the given up block", x.pooled(0), 1);
+        CHECKS.due("5: nothing else", x.count(3), 1);
+        CHECKS.due("5: though it fits", x.offer(0), true);
     }
 
     private static void conflictsWithTheNewChain() {

@@ -11,6 +11,7 @@ public final class ScriptTest {
         comparisons();
         moves();
         tooFew();
+        sizes();
         wholeLocks();
         heights();
         CHECKS.end();
@@ -127,6 +128,27 @@ public final class ScriptTest {
         int[] none = {1, 10, 11};
         for (int code : none) {
             due("none is enough", 0x09 | code << 4, 5, true);
+        }
+    }
+
+    /** How many numbers a code leaves, told by drops: the last one leaves none. */
+    private static void sizes() {
+        int[] leavesOne = {3, 4, 5, 6, 7, 12};
+        for (int code : leavesOne) {
+            due("two become one", 0x901 | code << 4, 5, false);
+        }
+        due("8 leaves two", 0x9981, 5, false);
+        due("13 leaves one", 0x9D, 5, false);
+        due("2 leaves two", 0x92, 5, true);
+        due("2 leaves two", 0x992, 5, false);
+        due("14 leaves three", 0x99E1, 5, true);
+        due("14 leaves three", 0x999E1, 5, false);
+        due("9 leaves one", 0x991, 5, false);
+        due("15 leaves one", 0x9F1, 5, false);
+        int[] pushes = {1, 10, 11};
+        for (int code : pushes) {
+            due("one becomes two", 0x90 | code, 5, true);
+            due("one becomes two", 0x990 | code, 5, false);
         }
     }
 
