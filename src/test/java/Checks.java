@@ -1,16 +1,28 @@
 /** Counts and prints the answers that are not the ones that are due. */
 final class Checks {
     private int wrong;
+    private int answers;
+    private String prefix = "";
 
     void due(String what, long got, long want) {
+        answers++;
         if (got != want) {
             wrong++;
-            System.out.println(what + ": answered " + got + ", due is " + want);
+            System.out.println(prefix + what + ": answered " + got + ", due is " + want);
         }
     }
 
     void due(String what, boolean got, boolean want) {
         due(what, got ? 1 : 0, want ? 1 : 0);
+    }
+
+    /** Runs the test of one sentence of the document; one that looks at no answer is no test. */
+    void sentence(String part, String quoted, Runnable test) {
+        prefix = part + ", \"" + quoted + "\": ";
+        int before = answers;
+        test.run();
+        due("has a test", answers > before, true);
+        prefix = "";
     }
 
     void end() {

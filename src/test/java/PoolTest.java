@@ -171,18 +171,10 @@ public final class PoolTest {
         CHECKS.due("5: made inside the block", x.unspent(2, 0), 30);
     }
 
-    /** Transactions first .. first + number - 1, each spending the one before; the first spends block 0's coinbase. */
-    private static void payOn(ChainNode x, int first, int number) {
-        Calls.pay(x, first, 32, 0, 50);
-        for (int i = 1; i < number; i++) {
-            Calls.pay(x, first + i, first + i - 1, 0, 50);
-        }
-    }
-
     private static void fullPool() {
         ChainNode x = new ChainNode();
         Calls.mineAll(x, 1, 2);
-        payOn(x, 0, 9);
+        Calls.payOn(x, 0, 9);
         for (int i = 0; i < 8; i++) {
             CHECKS.due("5: number " + i, x.offer(i), true);
         }
@@ -296,7 +288,7 @@ public final class PoolTest {
     private static void givenUpChainLongerThanThePool() {
         ChainNode x = new ChainNode();
         Calls.mineAll(x, 1, 2);
-        payOn(x, 10, 12);
+        Calls.payOn(x, 10, 12);
         Calls.send(x, 3, 2, 1, 10, 11, 12);
         Calls.send(x, 4, 3, 1, 13, 14, 15);
         for (int i = 16; i < 20; i++) {
