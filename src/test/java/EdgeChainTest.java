@@ -452,6 +452,33 @@ public final class EdgeChainTest {
         duePool("of two blocks, not of those beside, not of the new one", x, 0, 1);
         Calls.send(x, 12, 11, 1);
         duePool("a chain that grows gives nothing up", x, 0, 1);
+        nothingElseIsOffered();
+    }
+
+    /** What would fit, but was in no such block and not in the pool, stays outside. */
+    private static void nothingElseIsOffered() {
+        for (int count = 0; count <= 3; count++) {
+            ChainNode x = new ChainNode();
+            Calls.mineAll(x, 1, 6);
+            for (int t = 0; t < 5; t++) {
+                Calls.pay(x, t, 32 + t, 0, 50);
+            }
+            Calls.send(x, 23, 6, 15, 4);
+            Calls.send(x, 8, 6, 1, 0);
+            x.block(7, 23, 1);
+            for (int i = 0; i < 3; i++) {
+                x.include(7, 0);
+            }
+            x.block(7, 23, 1);
+            for (int t = 1; t <= count; t++) {
+                x.include(7, t);
+            }
+            x.submit(7);
+            due("a block of " + count, x.tip(), 7);
+            Calls.send(x, 9, 23, 15);
+            due("its transactions alone", x.count(3), count);
+            due("0 fits, but was not offered", x.offer(0), true);
+        }
     }
 
     private static void lowestBlockFirst() {
