@@ -1,7 +1,9 @@
 import com.sun.source.tree.AssignmentTree;
 import com.sun.source.tree.ClassTree;
 import com.sun.source.tree.CompilationUnitTree;
+import com.sun.source.tree.CompoundAssignmentTree;
 import com.sun.source.tree.ExpressionTree;
+import com.sun.source.tree.ForLoopTree;
 import com.sun.source.tree.IdentifierTree;
 import com.sun.source.tree.LiteralTree;
 import com.sun.source.tree.MemberSelectTree;
@@ -11,6 +13,7 @@ import com.sun.source.tree.NewArrayTree;
 import com.sun.source.tree.NewClassTree;
 import com.sun.source.tree.PrimitiveTypeTree;
 import com.sun.source.tree.Tree;
+import com.sun.source.tree.UnaryTree;
 import com.sun.source.tree.VariableTree;
 import com.sun.source.util.JavacTask;
 import com.sun.source.util.SourcePositions;
@@ -37,7 +40,8 @@ public final class LanguageTest {
         Tree.Kind.THROW, Tree.Kind.TRY, Tree.Kind.CATCH, Tree.Kind.SYNCHRONIZED, Tree.Kind.ASSERT,
         Tree.Kind.INSTANCE_OF, Tree.Kind.LAMBDA_EXPRESSION, Tree.Kind.MEMBER_REFERENCE, Tree.Kind.NULL_LITERAL,
         Tree.Kind.STRING_LITERAL, Tree.Kind.FLOAT_LITERAL, Tree.Kind.DOUBLE_LITERAL, Tree.Kind.IMPORT,
-        Tree.Kind.INTERFACE, Tree.Kind.ENUM, Tree.Kind.RECORD, Tree.Kind.ANNOTATION, Tree.Kind.ENHANCED_FOR_LOOP);
+        Tree.Kind.INTERFACE, Tree.Kind.ENUM, Tree.Kind.RECORD, Tree.Kind.ANNOTATION, Tree.Kind.ENHANCED_FOR_LOOP,
+        Tree.Kind.WHILE_LOOP, Tree.Kind.DO_WHILE_LOOP);
 
     private static final Checks CHECKS = new Checks();
     private static final Map<String, Set<String>> CALLS = new TreeMap<>();
@@ -63,6 +67,11 @@ public final class LanguageTest {
             CHECKS.due("1: private and public " + name, PUBLIC.contains(name), false);
         }
         CHECKS.due("10: fields within 40: " + fields, fields <= 40, true);
+        for (Set<String> called : CALLS.values()) {
+            for (String name : called) {
+                CHECKS.due("3: a method of the class: " + name, CALLS.containsKey(name), true);
+            }
+        }
         for (String name : CALLS.keySet()) {
             CHECKS.due("8, 10: calls six deep at most from " + name, depth(name, new ArrayList<>()) <= 6, true);
         }
@@ -176,6 +185,51 @@ public final class LanguageTest {
                 }.scan(argument, null);
             }
             return super.visitMethodInvocation(tree, nothing);
+        }
+
+        /** The class has for loops alone, each with one counter that its body leaves as it is. */
+        @Override
+        public Void visitForLoop(ForLoopTree tree, Void nothing) {
+            boolean one = tree.getInitializer().size() == 1 && tree.getUpdate().size() == 1;
+            CHECKS.due("8: one counter, " + place(tree), one, true);
+            CHECKS.due("8: a bound, " + place(tree), tree.getCondition() != null, true);
+            if (one && tree.getInitializer().get(0) instanceof VariableTree counter) {
+                String name = counter.getName().toString();
+                String bounded = "(?s).*\\b" + name + " (<|<=|>|>=) .*";
+                CHECKS.due("8: the counter against the bound, " + place(tree), tree.getCondition().toString().matches(bounded), true);
+                refuseChangesOf(name, tree.getStatement());
+            } else {
+                refuse("8: a counter of the loop's own", tree);
+            }
+            return super.visitForLoop(tree, nothing);
+        }
+
+        private void refuseChangesOf(String name, Tree body) {
+            new TreeScanner<Void, Void>() {
+                @Override
+                public Void visitAssignment(AssignmentTree inner, Void none) {
+                    return changes(inner, inner.getVariable()) ? null : super.visitAssignment(inner, none);
+                }
+
+                @Override
+                public Void visitCompoundAssignment(CompoundAssignmentTree inner, Void none) {
+                    return changes(inner, inner.getVariable()) ? null : super.visitCompoundAssignment(inner, none);
+                }
+
+                @Override
+                public Void visitUnary(UnaryTree inner, Void none) {
+                    boolean steps = inner.getKind().toString().matches("(PRE|POST)FIX_.*");
+                    return steps && changes(inner, inner.getExpression()) ? null : super.visitUnary(inner, none);
+                }
+
+                private boolean changes(Tree inner, Tree changed) {
+                    boolean hit = changed.toString().equals(name);
+                    if (hit) {
+                        refuse("8: the counter " + name + " is changed in its loop", inner);
+                    }
+                    return hit;
+                }
+            }.scan(body, null);
         }
 
         @Override
